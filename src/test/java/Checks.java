@@ -4,15 +4,38 @@ import java.util.function.LongSupplier;
 final class Checks {
     private static int asked = 0;
     private static int wrong = 0;
+    private static int sentences = 0;
+    private static int askedBefore = 0;
+    private static String sentence = "";
 
     private Checks() {
+    }
+
+    /** What is asked from now on is asked for a sentence of the document; the one before must have been asked for. */
+    static void sentence(String words) {
+        endSentence();
+        sentences++;
+        askedBefore = asked;
+        sentence = "\"" + words + "\": ";
+    }
+
+    private static void endSentence() {
+        if (sentences > 0 && asked == askedBefore) {
+            tell("nothing was asked for it");
+        }
     }
 
     static void same(String what, long due, long got) {
         asked++;
         if (due != got) {
-            wrong++;
-            System.out.println(what + ": answered " + got + ", due is " + due);
+            tell(what + ": answered " + got + ", due is " + due);
+        }
+    }
+
+    static void same(String what, String due, String got) {
+        asked++;
+        if (!due.equals(got)) {
+            tell(what + ": told " + got + ", due is " + due);
         }
     }
 
@@ -32,12 +55,18 @@ final class Checks {
             }
             got = e.toString();
         }
+        tell(what + ": came to " + got + ", due is " + due.getSimpleName());
+    }
+
+    private static void tell(String what) {
         wrong++;
-        System.out.println(what + ": came to " + got + ", due is " + due.getSimpleName());
+        System.out.println(sentence + what);
     }
 
     static void end(String test) {
-        System.out.println(test + ": " + asked + " checks, " + wrong + " wrong");
+        endSentence();
+        String of = sentences == 0 ? "" : sentences + " sentences, ";
+        System.out.println(test + ": " + of + asked + " checks, " + wrong + " wrong");
         if (wrong != 0) {
             System.exit(1);
         }

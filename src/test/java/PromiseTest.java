@@ -1,12 +1,8 @@
 import static java.lang.Integer.MAX_VALUE;
 import static java.lang.Integer.MIN_VALUE;
 
-import java.util.function.LongSupplier;
-
 /** Each promise of the document by itself: ordinary inputs, the edges that it names, wrong inputs. */
-final class PromiseTest {
-    private static final int NONE = RateWires.NONE;
-
+final class PromiseTest extends PlanCases {
     private PromiseTest() {
     }
 
@@ -45,67 +41,6 @@ final class PromiseTest {
         restore();
         askingChangesNothing();
         Checks.end("PromiseTest");
-    }
-
-    // ---- what the tests say in short
-
-    private static void same(String what, long due, long got) {
-        Checks.same(what, due, got);
-    }
-
-    private static void noIndex(String what, LongSupplier call) {
-        Checks.refused(what, IndexOutOfBoundsException.class, call);
-    }
-
-    private static void noArgument(String what, LongSupplier call) {
-        Checks.refused(what, IllegalArgumentException.class, call);
-    }
-
-    private static void noState(String what, LongSupplier call) {
-        Checks.refused(what, IllegalStateException.class, call);
-    }
-
-    private static void type(RateWires x, String s) {
-        x.clearText();
-        for (int i = 0; i < s.length(); i++) {
-            x.append(s.charAt(i));
-        }
-    }
-
-    private static RateWires loaded(String s) {
-        RateWires x = new RateWires();
-        type(x, s);
-        same("left out of " + s, 0, x.load());
-        return x;
-    }
-
-    private static int errorIn(String s) {
-        RateWires x = new RateWires();
-        type(x, s);
-        return x.errorPosition();
-    }
-
-    /** Everything that can be asked of a state but for the text, the slots and what is remembered. */
-    private static String told(RateWires x) {
-        StringBuilder s = new StringBuilder();
-        for (int what = 0; what <= 8; what++) {
-            s.append(x.about(what)).append(' ');
-        }
-        for (int m = 0; m < x.about(0); m++) {
-            for (int what = 0; what <= 5; what++) {
-                s.append(x.module(m, what)).append(' ');
-            }
-        }
-        for (int w = 0; w < x.about(1); w++) {
-            for (int what = 0; what <= 4; what++) {
-                s.append(x.wire(w, what)).append(' ');
-            }
-        }
-        return s.toString();
-    }
-
-    private static void unchanged(String what, RateWires x, String before) {
-        Checks.isTrue(what + " changes nothing", told(x).equals(before));
     }
 
     // ---- 1 to 5
@@ -637,14 +572,6 @@ final class PromiseTest {
 
     // ---- 17 to 22
 
-    private static void orderIs(String what, RateWires x, int rule, String due) {
-        for (int k = 0; k < due.length(); k++) {
-            same(what + ", rule " + rule + ", work " + k, due.charAt(k) - '0', x.order(rule, k));
-        }
-        same(what + ", rule " + rule + ", behind the last", NONE, x.order(rule, due.length()));
-        same(what + ", rule " + rule + ", far behind", NONE, x.order(rule, MAX_VALUE));
-    }
-
     private static void order() {
         RateWires x = loaded("Mm00m00m00w012300w121200");
         orderIs("two wires", x, 0, "000112");
@@ -891,45 +818,16 @@ final class PromiseTest {
         noArgument("100 turns", () -> x.simulate(1, 100));
         noArgument("-1 turns", () -> x.simulate(1, -1));
         String before = told(x);
-        for (int seed = -20; seed < 20; seed++) {
+        for (long seed = -20; seed < 20; seed++) {
             for (int m = 1; m < 100; m += m < 5 ? 1 : 19) {
-                same("simulate(" + seed + ", " + m + ")", turns("Mm00m00w012305w101209m00w221103", seed * 999999999999999L, m),
-                        x.simulate(seed * 999999999999999L, m));
+                long far = seed * 999999999999999L;
+                same("simulate(" + far + ", " + m + ")", toldOf(turns("Mm00m00w012305w101209m00w221103", far, m)), x.simulate(far, m));
             }
         }
         unchanged("a simulation", x, before);
         noState("it is no action", x::undo);
         same("nothing", 0, new RateWires().simulate(Long.MAX_VALUE, 99));
         simulateMuch();
-    }
-
-    /** The turns, done with actions on an object of its own. */
-    private static int turns(String plan, long seed, int m) {
-        RateWires y = loaded(plan);
-        long x = seed;
-        int works = 0;
-        for (int i = 0; i < m; i++) {
-            x = x * 6364136223846793005L + 1442695040888963407L;
-            int r = (int) (x >>> 33);
-            int a = r / 8 % 8;
-            int b = r / 64 % 8;
-            int before = y.about(3);
-            try {
-                if (r % 8 == 0) {
-                    y.lay(a, b, 1 + r / 512 % 3, 1 + r / 2048 % 3, r / 8192 % 8);
-                } else if (r % 8 == 1) {
-                    y.cut(r / 512 % 14);
-                } else if (r % 8 == 2) {
-                    y.round(r / 512 % 3);
-                } else {
-                    y.work(a);
-                }
-            } catch (RuntimeException e) {
-                same("left out", before, y.about(3));
-            }
-            works += y.about(3) - before;
-        }
-        return 1000 * Math.min(works, 999) + Math.min(y.about(2), 999);
     }
 
     private static void simulateMuch() {
