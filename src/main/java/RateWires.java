@@ -936,7 +936,7 @@ public final class RateWires {
                 most[w] = plan.marks[w];
             }
             int next = choose(rule);
-            while (next != NONE && length < total && length < steps.length) {
+            for (int works = 0; works < total && next != NONE; works++) {
                 take(next);
                 next = choose(rule);
             }
@@ -976,8 +976,10 @@ public final class RateWires {
         }
 
         private void take(int m) {
-            steps[length] = m;
-            length++;
+            if (length < steps.length) {
+                steps[length] = m;
+                length++;
+            }
             left[m]--;
             plan.doWork(m);
             for (int w = 0; w < plan.wires; w++) {

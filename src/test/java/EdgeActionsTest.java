@@ -8,7 +8,8 @@ final class EdgeActionsTest extends PlanCases {
     }
 
     public static void main(String[] args) {
-        addModuleRefused();
+        addModuleRefusedForKinds();
+        addModuleRefusedForEight();
         layRefusedForModules();
         layRefusedForNumbers();
         layRefusedForKinds();
@@ -16,10 +17,12 @@ final class EdgeActionsTest extends PlanCases {
         layRefusedForDeadLoops();
         cutRefused();
         cutMarks();
-        putRefused();
+        putRefusedForWires();
+        putRefusedForMarks();
         putHeld();
         putOnDeadLoops();
-        workRefused();
+        workRefusedForModules();
+        workRefusedForMarks();
         workMarks();
         roundRefusedForRules();
         roundRefusedForRates();
@@ -46,10 +49,14 @@ final class EdgeActionsTest extends PlanCases {
 
     // ---- 10 to 12
 
-    private static void addModuleRefused() {
-        sentence("Throws IllegalArgumentException if a kind is out of range; Throws IllegalStateException if there are 8");
+    private static void addModuleRefusedForKinds() {
+        sentence("addModule: Throws IllegalArgumentException if a kind is out of range");
         arguments("addModule to 7, uses", 0, 3, kind -> plain(7).addModule(kind, 3));
         arguments("addModule to 7, makes", 0, 3, kind -> plain(7).addModule(3, kind));
+    }
+
+    private static void addModuleRefusedForEight() {
+        sentence("addModule: Throws IllegalStateException if there are 8");
         for (int n = 0; n < 8; n++) {
             same("addModule to " + n, n, plain(n).addModule(0, 0));
         }
@@ -154,13 +161,17 @@ final class EdgeActionsTest extends PlanCases {
 
     // ---- 13
 
-    private static void putRefused() {
-        sentence("put: Throws IndexOutOfBoundsException if there is no such wire; Throws IllegalArgumentException if marks is out of range");
+    private static void putRefusedForWires() {
+        sentence("put: Throws IndexOutOfBoundsException if there is no such wire");
         noIndex("no wires", () -> plain(2).put(0, 0));
         for (int n : new int[] {1, 2, 13, 14}) {
             String text = "Mm00" + "w001105".repeat(n);
             indexes("one of " + n, 0, n - 1, w -> loaded(text).put(w, 5));
         }
+    }
+
+    private static void putRefusedForMarks() {
+        sentence("put: Throws IllegalArgumentException if marks is out of range");
         arguments("marks", 0, 99, marks -> loaded("Mm00m00w011105").put(0, marks));
         RateWires x = loaded("Mm00m00w016199");
         x.work(0);
@@ -214,13 +225,17 @@ final class EdgeActionsTest extends PlanCases {
 
     // ---- 14 and 15
 
-    private static void workRefused() {
-        sentence("work: Throws IndexOutOfBoundsException if there is no such module; Throws IllegalStateException if it cannot work");
+    private static void workRefusedForModules() {
+        sentence("work: Throws IndexOutOfBoundsException if there is no such module");
         noIndex("no modules", () -> new RateWires().work(0));
         for (int n = 1; n <= 8; n++) {
             int modules = n;
             indexes("one of " + n, 0, n - 1, m -> plain(modules).work(m));
         }
+    }
+
+    private static void workRefusedForMarks() {
+        sentence("work: Throws IllegalStateException if it cannot work");
         RateWires x = loaded("Mm00m00w011304");
         same("4 marks", 1, x.work(1));
         noState("1 mark", () -> x.work(1));

@@ -11,10 +11,12 @@ final class EdgeAskingTest extends PlanCases {
         aboutRound();
         aboutReady();
         aboutLoops();
-        moduleRefused();
+        moduleRefusedForModules();
+        moduleRefusedForWhat();
         moduleWorks();
         moduleWires();
-        wireRefused();
+        wireRefusedForWires();
+        wireRefusedForWhat();
         wireNumbers();
         betweenRefused();
         betweenSmallest();
@@ -25,7 +27,8 @@ final class EdgeAskingTest extends PlanCases {
         orderAheadOfSticking();
         sticksRefused();
         sticksBehind();
-        holdsRefused();
+        holdsRefusedForWires();
+        holdsRefusedForRules();
         holdsAtATime();
         holdsAlsoIfItSticks();
         bestRuleFewest();
@@ -33,7 +36,8 @@ final class EdgeAskingTest extends PlanCases {
         fewestRefused();
         fewestSmallest();
         fewestNone();
-        agreesRefused();
+        agreesRefusedForWires();
+        agreesRefusedForRates();
         agreesSmallest();
         agreesNone();
         Checks.end("EdgeAskingTest");
@@ -171,8 +175,8 @@ final class EdgeAskingTest extends PlanCases {
 
     // ---- 7 and 8
 
-    private static void moduleRefused() {
-        sentence("module: Throws IndexOutOfBoundsException if there is no such module; Throws IllegalArgumentException if what is not 0 to 5");
+    private static void moduleRefusedForModules() {
+        sentence("module: Throws IndexOutOfBoundsException if there is no such module");
         noIndex("no modules", () -> new RateWires().module(0, 0));
         for (int n = 1; n <= 8; n++) {
             RateWires x = plain(n);
@@ -180,7 +184,15 @@ final class EdgeAskingTest extends PlanCases {
                 int number = what;
                 indexes("one of " + n, 0, n - 1, m -> x.module(m, number));
             }
+        }
+    }
+
+    private static void moduleRefusedForWhat() {
+        sentence("module: Throws IllegalArgumentException if what is not 0 to 5");
+        for (int n = 1; n <= 8; n++) {
+            RateWires x = plain(n);
             int last = n - 1;
+            arguments("of the first of " + n, 0, 5, what -> x.module(0, what));
             arguments("of the last of " + n, 0, 5, what -> x.module(last, what));
         }
     }
@@ -229,8 +241,8 @@ final class EdgeAskingTest extends PlanCases {
         same("one less", 11, x.module(2, 4));
     }
 
-    private static void wireRefused() {
-        sentence("wire: Throws IndexOutOfBoundsException if there is no such wire; Throws IllegalArgumentException if what is not 0 to 4");
+    private static void wireRefusedForWires() {
+        sentence("wire: Throws IndexOutOfBoundsException if there is no such wire");
         noIndex("no wires", () -> plain(2).wire(0, 0));
         for (int n = 1; n <= 14; n++) {
             RateWires x = loaded("Mm00" + "w001105".repeat(n));
@@ -238,7 +250,15 @@ final class EdgeAskingTest extends PlanCases {
                 int number = what;
                 indexes("one of " + n, 0, n - 1, w -> x.wire(w, number));
             }
+        }
+    }
+
+    private static void wireRefusedForWhat() {
+        sentence("wire: Throws IllegalArgumentException if what is not 0 to 4");
+        for (int n = 1; n <= 14; n++) {
+            RateWires x = loaded("Mm00" + "w001105".repeat(n));
             int last = n - 1;
+            arguments("of the first of " + n, 0, 4, what -> x.wire(0, what));
             arguments("of the last of " + n, 0, 4, what -> x.wire(last, what));
         }
     }
@@ -438,8 +458,8 @@ final class EdgeAskingTest extends PlanCases {
 
     // ---- 19
 
-    private static void holdsRefused() {
-        sentence("holds: Throws IndexOutOfBoundsException if there is no such wire; Throws IllegalArgumentException if rule is out of range");
+    private static void holdsRefusedForWires() {
+        sentence("holds: Throws IndexOutOfBoundsException if there is no such wire");
         noIndex("no wires", () -> plain(2).holds(0, 0));
         for (int n = 1; n <= 14; n++) {
             RateWires x = loaded("Mm00" + "w001105".repeat(n));
@@ -447,9 +467,18 @@ final class EdgeAskingTest extends PlanCases {
                 int r = rule;
                 indexes("one of " + n, 0, n - 1, w -> x.holds(w, r));
             }
+        }
+    }
+
+    private static void holdsRefusedForRules() {
+        sentence("holds: Throws IllegalArgumentException if rule is out of range");
+        for (int n = 1; n <= 14; n++) {
+            RateWires x = loaded("Mm00" + "w001105".repeat(n));
             int last = n - 1;
             arguments("the last of " + n, 0, 2, rule -> x.holds(last, rule));
         }
+        RateWires y = loaded("Mm00m00w011105w011205");
+        arguments("rates that do not agree", 0, 2, rule -> y.holds(1, rule));
     }
 
     private static void holdsAtATime() {
@@ -491,6 +520,20 @@ final class EdgeAskingTest extends PlanCases {
             for (int w = 0; w < 3; w++) {
                 same("rates that do not agree", -1, x.holds(w, rule));
             }
+            RateWires y = loaded("Mm00m00" + "w011150".repeat(13) + "w001103");
+            for (int w = 0; w < 14; w++) {
+                same("it does not stick", w < 13 ? rule == 1 ? 50 : 51 : 3, y.holds(w, rule));
+            }
+            y.cut(13);
+            y.lay(0, 0, 2, 2, 1);
+            for (int w = 0; w < 13; w++) {
+                y.put(w, w);
+            }
+            same("0 lacks marks, and so does 1", 0, y.sticks(rule));
+            for (int w = 0; w < 13; w++) {
+                same("no more than before it, with many wires", w, y.holds(w, rule));
+            }
+            same("nor on the last one", 1, y.holds(13, rule));
         }
     }
 
@@ -519,6 +562,7 @@ final class EdgeAskingTest extends PlanCases {
         rulesHold("Mm00m00m00w103301w202308", 0, 12, 18, 14);
         rulesHold("Mm00m00w013306", 1, 9, 6, 9);
         rulesHold("Mm00m00m00w021102w102201", 1, 6, 5, 5);
+        rulesHold("Mm00m00w001105w111105w011206", 1, 18, 16, 17);
         rulesHold("Mm00m00m00w022308", 1, 14, 8, 10);
         rulesHold("Mm00m00m00w121100w021305", 2, 9, 9, 7);
         rulesHold("Mm00m00m00w022301w123101", 2, 26, 19, 10);
@@ -605,12 +649,19 @@ final class EdgeAskingTest extends PlanCases {
 
     // ---- 22
 
-    private static void agreesRefused() {
-        sentence("agrees: Throws IndexOutOfBoundsException if there is no such wire; Throws IllegalArgumentException if comes is out of range");
+    private static void agreesRefusedForWires() {
+        sentence("agrees: Throws IndexOutOfBoundsException if there is no such wire");
         noIndex("no wires", () -> plain(2).agrees(0, 1));
         for (int n = 1; n <= 14; n++) {
             RateWires x = loaded("Mm00" + "w001105".repeat(n));
             indexes("one of " + n, 0, n - 1, w -> x.agrees(w, 1));
+        }
+    }
+
+    private static void agreesRefusedForRates() {
+        sentence("agrees: Throws IllegalArgumentException if comes is out of range");
+        for (int n = 1; n <= 14; n++) {
+            RateWires x = loaded("Mm00" + "w001105".repeat(n));
             int last = n - 1;
             arguments("the last of " + n, 1, 6, comes -> x.agrees(last, comes));
         }

@@ -285,9 +285,13 @@ final class EdgeScriptsTest extends PlanCases {
 
     private static void otherDigits() {
         sentence("(also one with another digit where a 0 is written)");
-        RateWires x = loaded("M" + "m00".repeat(8) + "w011105".repeat(11));
+        otherDigits(loaded("M" + "m00".repeat(8) + "w011105".repeat(11)), 200010, 301005, 400007, 500002, 600000, 701005, 800055, 900700);
+        otherDigits(loaded("Mm00m00w011100"), 200000, 300000, 400000, 500000, 600000, 700000, 800000, 900000);
+    }
+
+    /** Groups that succeed, but do no more with another digit where a 0 is written. */
+    private static void otherDigits(RateWires x, int... fine) {
         String[] groups = {"2000..", "30....", "40000.", "50000.", "600000", "70....", "800...", "900..."};
-        int[] fine = {200010, 301005, 400007, 500002, 600000, 701005, 800055, 900700};
         for (int g = 0; g < groups.length; g++) {
             script(x, fine[g], true);
             for (int place = 1, tens = 10000; place < 6; place++, tens /= 10) {

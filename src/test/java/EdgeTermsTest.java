@@ -435,19 +435,27 @@ final class EdgeTermsTest extends PlanCases {
         same("5 is alone", 6, y.about(5));
     }
 
-    /** Modules of which each works so many times as often as the one before it, first or last the fewest. */
-    private static RateWires chain(boolean rising, int... times) {
+    /** Modules of which each works so many times as often as the one before it (or the other way round), by wires in any direction. */
+    private static RateWires chain(boolean rising, boolean upwards, int... times) {
         RateWires x = plain(times.length + 1);
         for (int i = 0; i < times.length; i++) {
-            x.lay(i, i + 1, rising ? times[i] : 1, rising ? 1 : times[i], 0);
+            int low = rising ? 1 : times[i];
+            int high = rising ? times[i] : 1;
+            if (upwards) {
+                x.lay(i, i + 1, high, low, 0);
+            } else {
+                x.lay(i + 1, i, low, high, 0);
+            }
         }
         return x;
     }
 
     private static void sixtyWorks() {
         sentence("They are told if they are at most 60 for each module");
-        due("60 of the last one", chain(true, 6, 5, 2), 1, 6, 30, 60);
-        due("60 of the first one", chain(false, 3, 5, 4), 60, 20, 4, 1);
+        for (boolean upwards : new boolean[] {true, false}) {
+            due("60 of the last one", chain(true, upwards, 6, 5, 2), 1, 6, 30, 60);
+            due("60 of the first one", chain(false, upwards, 3, 5, 4), 60, 20, 4, 1);
+        }
         RateWires x = plain(6);
         x.lay(0, 2, 4, 1, 0);
         x.lay(1, 2, 3, 1, 0);
@@ -460,12 +468,15 @@ final class EdgeTermsTest extends PlanCases {
 
     private static void tooManyWorks() {
         sentence("otherwise the rates count as not agreeing");
-        disagree("64 of the last one", chain(true, 4, 4, 4));
-        disagree("64 of the first one", chain(false, 4, 4, 4));
-        disagree("72 of the last one", chain(true, 6, 6, 2));
-        disagree("far too many of the last one", chain(true, 6, 6, 6, 6, 6, 6, 6));
-        disagree("far too many of the first one", chain(false, 6, 6, 6, 6, 6, 6, 6));
-        RateWires x = chain(true, 4, 4);
+        for (boolean upwards : new boolean[] {true, false}) {
+            disagree("64 of the last one", chain(true, upwards, 4, 4, 4));
+            disagree("64 of the first one", chain(false, upwards, 4, 4, 4));
+            disagree("72 of the last one", chain(true, upwards, 6, 6, 2));
+            disagree("72 of the first one", chain(false, upwards, 2, 6, 6));
+            disagree("far too many of the last one", chain(true, upwards, 6, 6, 6, 6, 6, 6, 6));
+            disagree("far too many of the first one", chain(false, upwards, 6, 6, 6, 6, 6, 6, 6));
+        }
+        RateWires x = chain(true, true, 4, 4);
         x.addModule(0, 0);
         x.addModule(0, 0);
         x.lay(4, 3, 1, 4, 0);
