@@ -1,7 +1,7 @@
 import java.util.function.LongSupplier;
 
-/** Counts and prints what is not as due; every test ends by telling the outcome. */
-final class Checks {
+/** Counts and prints what is not as due; every test ends by telling the outcome. Public for the example of ReadmeTest. */
+public final class Checks {
     private static int asked = 0;
     private static int wrong = 0;
     private static int sentences = 0;
@@ -25,14 +25,14 @@ final class Checks {
         }
     }
 
-    static void same(String what, long due, long got) {
+    public static void same(String what, long due, long got) {
         asked++;
         if (due != got) {
             tell(what + ": answered " + got + ", due is " + due);
         }
     }
 
-    static void same(String what, String due, String got) {
+    public static void same(String what, String due, String got) {
         asked++;
         if (!due.equals(got)) {
             tell(what + ": told " + got + ", due is " + due);
@@ -44,7 +44,7 @@ final class Checks {
     }
 
     /** An exception of exactly this class, not of one below it. */
-    static void refused(String what, Class<? extends RuntimeException> due, LongSupplier call) {
+    public static void refused(String what, Class<? extends RuntimeException> due, LongSupplier call) {
         asked++;
         String got;
         try {
